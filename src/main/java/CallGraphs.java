@@ -690,12 +690,9 @@ public final class CallGraphs {
 
         private void serveMade(int op, int type, int name) {
             for (int c = 0; c < types.size(); c++) {
-                if (isMadeUnder(c, type)) addCallee(op, choices.choose(c, type, name));
+                if (!Bits.has(made, c) || !types.isUnder(c, type)) continue;
+                addCallee(op, choices.choose(c, type, name));
             }
-        }
-
-        private boolean isMadeUnder(int c, int type) {
-            return Bits.has(made, c) && types.isUnder(c, type);
         }
 
         private void serveStatic(int op, int member) {
@@ -756,11 +753,15 @@ public final class CallGraphs {
         }
 
         long callersOf(int member) {
-            long set = 0L;
-            for (int other = 0; other < members.size(); other++) {
-                if (Bits.has(calls[other], member)) set = Bits.with(set, other);
+            return callersOfAny(1L << member);
+        }
+
+        private long callersOfAny(long set) {
+            long callers = 0L;
+            for (int member = 0; member < members.size(); member++) {
+                if ((calls[member] & set) != 0L) callers = Bits.with(callers, member);
             }
-            return set;
+            return callers;
         }
 
         boolean isRecursive(int member) {
@@ -820,7 +821,8 @@ public final class CallGraphs {
         private int faultsOfMade(int type, int name, int kind) {
             int n = 0;
             for (int c = 0; c < types.size(); c++) {
-                if (isMadeUnder(c, type) && choices.choose(c, type, name) == kind) n++;
+                if (!Bits.has(made, c) || !types.isUnder(c, type)) continue;
+                if (choices.choose(c, type, name) == kind) n++;
             }
             // What is FOUND does not depend on the class, so these are told once.
             return kind == MISSING || kind == UNLIKE ? Math.min(n, 1) : n;
@@ -828,33 +830,23 @@ public final class CallGraphs {
 
         /** The i-th member of THE WAY to a member, or NONE. */
         int onWay(int end, int i) {
-            int depth = layWay(end);
-            if (depth == NONE || i < 0 || i > depth) return NONE;
-            int at = Bits.least(layers[depth] & members.roots());
-            for (int n = 1; n <= i && at != NONE; n++) at = Bits.least(layers[depth - n] & calls[at]);
+            if (!Bits.has(reached, end)) return NONE;
+            int away = layWay(end);
+            if (i < 0 || i > away) return NONE;
+            int at = Bits.least(layers[away] & members.roots());
+            for (int n = 1; n <= i && at != NONE; n++) at = Bits.least(layers[away - n] & calls[at]);
             return at;
         }
 
-        /** Fills the layers back from the end to the first one with a ROOT: its number, or NONE. */
+        /** Fills the layers back from the end to the first one with a ROOT: how many calls that is away, or NONE. */
         private int layWay(int end) {
-            long seen = 1L << end;
-            layers[0] = seen;
-            for (int depth = 0; depth < MAX_MEMBERS && layers[depth] != 0L; depth++) {
-                if ((layers[depth] & members.roots()) != 0L) return depth;
-                if (depth + 1 >= MAX_MEMBERS) return NONE;
-                long next = callersOfAny(layers[depth]) & ~seen;
-                layers[depth + 1] = next;
-                seen |= next;
+            long layer = 1L << end;
+            for (int away = 0; away < MAX_MEMBERS; away++) {
+                layers[away] = layer;
+                if ((layer & members.roots()) != 0L) return away;
+                layer = callersOfAny(layer);
             }
             return NONE;
-        }
-
-        private long callersOfAny(long set) {
-            long callers = 0L;
-            for (int member = 0; member < members.size(); member++) {
-                if ((calls[member] & set) != 0L) callers = Bits.with(callers, member);
-            }
-            return callers;
         }
     }
 
