@@ -716,7 +716,7 @@ public final class CallGraphs {
 
         /** NONE and FAULTS, which are less than 0, are no CALLEES. */
         private void addCallee(int op, int member) {
-            if (member >= 0) callees[op] = Bits.with(callees[op], member);
+            if (member >= 0) callees[op] |= 1L << member;
         }
 
         private void joinCalls() {
