@@ -1,467 +1,734 @@
-/** Promises 7 (count), 11 (about), 12 (made), 13 (callee), 14 (faults), 15 (caller) and 16 (way). */
-public final class GraphTest {
-    private static final int PLAIN = 0, BARE = 1, SHARED = 2, PRIVATE = 3, START = 4;
-    private static final int NEW = 0, CALL = 1, UP = 2, STATIC = 3, THREAD = 4, PUT = 5, OUT = 6, ANY = 7;
+/** THE GRAPH, and promises 7 (count), 12 (made) and 13 (callee), sentence by sentence. */
+public final class GraphTest implements Words {
     private static final Check check = new Check("GraphTest");
 
     public static void main(String[] args) {
-        counts();
-        reachedByStatic();
-        madeClasses();
+        theLeast();
+        rootsAreReached();
+        newMakesAndBegins();
+        callsOfMadeClasses();
+        callsOfWhatIsFound();
         threads();
         ups();
+        statics();
+        staticsBegin();
+        puts();
+        outs();
+        anys();
+        calleesAreReached();
         begunWithAClass();
-        begunByStatic();
-        bags();
-        anyOfAName();
-        faultsOfCalls();
-        faultsOfUpAndStatic();
-        rings();
-        ways();
-        longestWay();
+        facesBegunWithAClass();
+        nothingIsBegunWithAFace();
+        startsAreReached();
+        startsAreCallees();
         changesAreSeen();
-        refusals();
+
+        countsOfTold();
+        countsOfTheGraph();
+        countOfPairs();
+        countsAtTheirMost();
+        countOutside();
+        madeOfAType();
+        madeUnknown();
+        madeOutside();
+        calleesByNumbers();
+        calleeNone();
+        calleeOfOneNotReached();
+        calleeUnknown();
         check.end();
     }
 
-    /** A class with n STATIC members of NAMES 0 .. n - 1, at most ten. */
-    private static CallGraphs shared(int n) {
+    private static CallGraphs types(int... kinds) {
         CallGraphs g = new CallGraphs();
-        g.type(0, -1);
+        for (int kind : kinds) g.type(kind, NONE);
+        return g;
+    }
+
+    /** A class with n STATIC members of NAMES 0 .. n - 1. */
+    private static CallGraphs shared(int n) {
+        CallGraphs g = types(CLASS);
         for (int name = 0; name < n; name++) g.member(0, name, SHARED);
         return g;
     }
 
-    private static void call(CallGraphs g, int from, int... names) {
-        for (int name : names) g.op(from, STATIC, 0, name);
-    }
-
     private static void dueCallees(String of, CallGraphs g, int member, int op, int... due) {
         for (int i = 0; i < due.length; i++) check.due(of + ": callee " + i, g.callee(member, op, i), due[i]);
-        check.due(of + ": no more callees", g.callee(member, op, due.length), CallGraphs.NONE);
-        check.due(of + ": callee -1", g.callee(member, op, -1), CallGraphs.NONE);
+        check.due(of + ": no more callees", g.callee(member, op, due.length), NONE);
     }
 
-    private static void dueCallers(String of, CallGraphs g, int member, int... due) {
-        for (int i = 0; i < due.length; i++) check.due(of + ": caller " + i, g.caller(member, i), due[i]);
-        check.due(of + ": no more callers", g.caller(member, due.length), CallGraphs.NONE);
-        check.due(of + ": caller -1", g.caller(member, -1), CallGraphs.NONE);
-        check.due(of + ": how many callers", g.about(member, 2), due.length);
+    private static void dueReached(String of, CallGraphs g, int... due) {
+        for (int m = 0; m < due.length; m++) check.due(of + ": is " + m + " REACHED", g.about(m, 0), due[m]);
     }
 
-    private static void dueWay(String of, CallGraphs g, int member, int... due) {
-        for (int i = 0; i < due.length; i++) check.due(of + ": way " + i, g.way(member, i), due[i]);
-        check.due(of + ": the way ends", g.way(member, due.length), CallGraphs.NONE);
-        check.due(of + ": way -1", g.way(member, -1), CallGraphs.NONE);
+    private static void dueBegun(String of, CallGraphs g, int... due) {
+        int n = 0;
+        for (int t = 0; t < due.length; t++) {
+            check.due(of + ": is " + t + " BEGUN", g.made(t, 1), due[t]);
+            n += due[t];
+        }
+        check.due(of + ": how many are BEGUN", g.count(6), n);
     }
 
-    private static void counts() {
-        CallGraphs g = shared(3);
-        g.type(0, 0);
-        call(g, 0, 0, 1);
-        g.op(0, NEW, 1, 0);
-        g.op(0, CALL, 0, 7);
-        g.root(0, true);
-        int[] due = {2, 3, 4, 1, 2, 1, 2, 2, 1, 1};
-        for (int what = 0; what < due.length; what++) check.due("count(" + what + ")", g.count(what), due[what]);
-        check.due("count(-1)", g.count(-1), CallGraphs.OUTSIDE);
-        check.due("count(10)", g.count(10), CallGraphs.OUTSIDE);
-    }
-
-    private static void reachedByStatic() {
+    private static void theLeast() {
+        check.sentence(0, "the least such that all this holds");
         CallGraphs g = shared(5);
-        call(g, 0, 1);
-        call(g, 1, 2, 2);
-        call(g, 3, 4);
-        g.root(0, true);
-        for (int m = 0; m < 5; m++) check.due("reached " + m, g.about(m, 0), m < 3 ? 1 : 0);
-        check.due("pairs, each OP for itself", g.count(7), 3);
-        dueCallees("reached", g, 1, 1, 2);
-        dueCallees("not reached", g, 3, 0);
-        dueCallers("called by two OPS of one", g, 2, 1);
-        dueCallers("called by one that is not reached", g, 4);
-        check.due("begun", g.made(0, 1), 1);
-        check.due("not made", g.made(0, 0), 0);
+        g.type(CLASS, 0);
+        g.op(0, STATIC, 0, 1);
+        g.op(1, STATIC, 0, 0);
+        g.op(1, NEW, 1, 0);
+        g.op(1, PUT, 0, 4);
+        g.op(2, OUT, 0, 0);
+        g.op(2, CALL, 0, 3);
+        for (int what = 4; what < 10; what++) check.due("without ROOTS: count(" + what + ")", g.count(what), 0);
+        g.root(2, true);
+        dueReached("0 and 1 call one another, and no one else them", g, 0, 0, 1, 0, 0);
+        check.due("what one makes that is not REACHED", g.count(5), 0);
+        check.due("what one begins that is not REACHED", g.count(6), 0);
+        dueCallees("what one puts that is not REACHED", g, 2, 0);
+        g.root(1, true);
+        dueReached("now one of them is a ROOT", g, 1, 1, 1, 0, 1);
     }
 
-    /** Types: 0 an abstract class, 1, 2, 3 classes UNDER it (3 of 2). NAME 0 of 0, 1, 3; the root is 4, of 0. */
+    private static void rootsAreReached() {
+        check.sentence(0, "ROOTS are REACHED");
+        CallGraphs g = types(FACE, CLASS);
+        int[] sorts = {PLAIN, SHARED, PRIVATE};
+        for (int m = 0; m < 3; m++) g.member(0, m, sorts[m]);
+        for (int m = 0; m < 3; m++) g.member(1, m, sorts[m]);
+        dueReached("none is a ROOT", g, 0, 0, 0, 0, 0, 0);
+        for (int m = 0; m < 6; m++) {
+            g.root(m, true);
+            check.due("ROOT " + m, g.about(m, 0), 1);
+        }
+        check.due("a ROOT makes nothing", g.count(5), 0);
+        dueBegun("a ROOT begins nothing", g, 0, 0);
+        g.root(3, false);
+        dueReached("3 is none now", g, 1, 1, 1, 0, 1, 1);
+    }
+
+    private static void newMakesAndBegins() {
+        check.sentence(0, "NEW a: a is MADE, and BEGUN");
+        CallGraphs g = types(CLASS, CLASS);
+        g.member(0, 0, SHARED);
+        g.root(0, true);
+        g.op(0, NEW, 1, 0);
+        check.due("MADE", g.made(1, 0), 1);
+        check.due("the other one is not", g.made(0, 0), 0);
+        dueBegun("NEW 1", g, 0, 1);
+        g.op(0, NEW, 1, 0);
+        check.due("again: how many", g.count(5), 1);
+        g.type(CLASS, 1);
+        g.op(0, NEW, 2, 0);
+        check.due("with a SUPER", g.made(2, 0), 1);
+        CallGraphs below = types(CLASS);
+        below.type(CLASS, 0);
+        below.member(0, 0, SHARED);
+        below.root(0, true);
+        below.op(0, NEW, 1, 0);
+        check.due("the SUPER is not MADE with it", below.made(0, 0), 0);
+    }
+
+    /** Types: 0 abstract, 1, 2 of 0, 3 of 2. NAME 0 of 0 (member 0), 1 (1) and 3 (2); member 3 is the ROOT. */
     private static CallGraphs family() {
-        CallGraphs g = new CallGraphs();
-        g.type(1, -1);
-        g.type(0, 0);
-        g.type(0, 0);
-        g.type(0, 2);
+        CallGraphs g = types(ABSTRACT);
+        g.type(CLASS, 0);
+        g.type(CLASS, 0);
+        g.type(CLASS, 2);
         g.member(0, 0, PLAIN);
         g.member(1, 0, PLAIN);
         g.member(3, 0, PLAIN);
-        g.member(0, 1, PLAIN);
         g.member(0, 5, SHARED);
-        g.root(4, true);
+        g.root(3, true);
         return g;
     }
 
-    private static void madeClasses() {
+    private static void callsOfMadeClasses() {
+        check.sentence(0, "CALL, THREAD: for each MADE class c that is UNDER a: the member that is CHOSEN for c");
         CallGraphs g = family();
-        g.op(4, CALL, 0, 0);
-        dueCallees("none is made", g, 4, 0);
-        g.op(4, NEW, 1, 0);
-        dueCallees("1 is made, behind the call", g, 4, 0, 1);
-        g.op(4, CALL, 2, 0);
-        dueCallees("none UNDER 2", g, 4, 2);
-        g.op(1, NEW, 3, 0);
-        dueCallees("3 is made by a callee", g, 4, 0, 1, 2);
-        dueCallees("UNDER 2", g, 4, 2, 2);
-        g.op(2, NEW, 2, 0);
-        dueCallees("2 has what 0 has", g, 4, 0, 0, 1, 2);
-        for (int t = 0; t < 4; t++) check.due("made " + t, g.made(t, 0), t == 0 ? 0 : 1);
-        check.due("made classes", g.count(5), 3);
-        check.due("not called", g.about(3, 0), 0);
+        g.op(3, CALL, 0, 0);
+        g.op(3, CALL, 2, 0);
+        g.op(3, CALL, 3, 0);
+        dueCallees("none is MADE", g, 3, 0);
+        g.op(3, NEW, 1, 0);
+        dueCallees("1 is MADE, behind the CALL", g, 3, 0, 1);
+        dueCallees("1 is not UNDER 2", g, 3, 1);
+        g.op(1, NEW, 2, 0);
+        dueCallees("2 is MADE, by a CALLEE", g, 3, 0, 0, 1);
+        dueCallees("2 is UNDER itself", g, 3, 1, 0);
+        dueCallees("2 is not UNDER 3", g, 3, 2);
+        g.op(0, NEW, 3, 0);
+        dueCallees("3 is MADE", g, 3, 0, 0, 1, 2);
+        dueCallees("3 is UNDER 2", g, 3, 1, 0, 2);
+        dueCallees("3 is UNDER itself", g, 3, 2, 2);
+        CallGraphs same = types(FACE, CLASS, CLASS);
+        same.face(1, 0);
+        same.face(2, 0);
+        same.member(0, 0, PLAIN);
+        same.member(1, 5, SHARED);
+        same.root(1, true);
+        same.op(1, NEW, 1, 0);
+        same.op(1, NEW, 2, 0);
+        same.op(1, CALL, 0, 0);
+        dueCallees("of a face; two classes, one member", same, 1, 2, 0);
+        CallGraphs alone = types(CLASS);
+        alone.member(0, 0, PLAIN);
+        alone.member(0, 5, SHARED);
+        alone.root(1, true);
+        alone.op(1, CALL, 0, 0);
+        alone.op(1, NEW, 0, 0);
+        dueCallees("the first type, MADE behind the CALL", alone, 1, 0, 0);
+    }
+
+    private static void callsOfWhatIsFound() {
+        check.sentence(0, "of what is FOUND of the NAME in a");
+        CallGraphs g = types(CLASS);
+        g.type(CLASS, 0);
+        g.member(0, 0, PRIVATE);
+        g.member(1, 0, PLAIN);
+        g.member(1, 1, PLAIN);
+        g.member(0, 2, SHARED);
+        g.member(1, 2, PLAIN);
+        g.root(3, true);
+        g.op(3, NEW, 1, 0);
+        g.op(3, CALL, 0, 0);
+        g.op(3, CALL, 1, 0);
+        g.op(3, CALL, 0, 1);
+        g.op(3, CALL, 0, 2);
+        g.op(3, CALL, 1, 2);
+        dueCallees("FOUND in 0 is PRIVATE", g, 3, 1, 0);
+        dueCallees("FOUND in 1 is PLAIN", g, 3, 2, 1);
+        dueCallees("nothing is FOUND in 0, though 1 has it", g, 3, 3);
+        dueCallees("FOUND in 0 is STATIC, though 1 has it PLAIN", g, 3, 4);
+        dueCallees("FOUND in 1 is PLAIN, though 0 has it STATIC", g, 3, 5, 4);
     }
 
     private static void threads() {
-        CallGraphs g = family();
-        g.member(0, 9, PLAIN);
-        g.op(4, THREAD, 0, 1);
-        g.op(4, NEW, 3, 0);
-        dueCallees("NAME 9", g, 4, 0, 5);
-        g.member(3, 9, PLAIN);
-        dueCallees("as the class has it", g, 4, 0, 6);
-        check.due("not NAME 1", g.about(3, 0), 0);
+        check.sentence(0, "THREAD a: as CALL a 9");
+        for (int b = -1; b < 11; b++) {
+            CallGraphs g = family();
+            for (int name = 1; name < 10; name++) {
+                if (name != 5) g.member(0, name, PLAIN);
+            }
+            int nine = g.found(0, 9);
+            g.op(3, THREAD, 0, b);
+            dueCallees("none is MADE, b = " + b, g, 3, 0);
+            g.op(3, NEW, 3, 0);
+            dueCallees("b = " + b, g, 3, 0, nine);
+            int own = g.member(3, 9, PLAIN);
+            dueCallees("as the class has it, b = " + b, g, 3, 0, own);
+        }
     }
 
     private static void ups() {
+        check.sentence(0, "UP: that which is CHOSEN for a of what is FOUND in a");
         CallGraphs g = family();
+        g.root(3, false);
         g.root(2, true);
         g.op(2, UP, 2, 0);
-        dueCallees("as the SUPER has it, though none is made", g, 2, 0, 0);
-        g.member(2, 0, PLAIN);
-        dueCallees("the nearest", g, 2, 0, 5);
-        check.due("nothing is made", g.count(5), 0);
-        check.due("nothing is begun", g.count(6), 0);
+        dueCallees("as the SUPER has it", g, 2, 0, 0);
+        int near = g.member(2, 0, PLAIN);
+        dueCallees("the nearest", g, 2, 0, near);
+        check.due("nothing is MADE", g.count(5), 0);
+        dueBegun("nothing is BEGUN", g, 0, 0, 0, 0);
+        CallGraphs faces = types(FACE, FACE, CLASS);
+        faces.face(1, 0);
+        faces.face(2, 1);
+        faces.member(0, 0, PLAIN);
+        faces.member(2, 0, PLAIN);
+        faces.member(1, 1, PRIVATE);
+        faces.root(1, true);
+        faces.op(1, UP, 1, 0);
+        faces.op(1, UP, 1, 1);
+        dueCallees("as a face has it", faces, 1, 0, 0);
+        dueCallees("PRIVATE of the face", faces, 1, 1, 2);
+        faces.member(1, 0, BARE);
+        dueCallees("BARE", faces, 1, 0);
     }
 
-    /**
-     * Faces 0 (PLAIN), 1 (a STATIC alone), 2 (PLAIN, over 3), 3 (BARE alone); class 4 with faces 3 and 1;
-     * class 5 of 4 with face 0; all with a START.
-     */
-    private static CallGraphs beginning() {
-        CallGraphs g = new CallGraphs();
-        for (int i = 0; i < 4; i++) g.type(2, -1);
-        g.type(0, -1);
-        g.type(0, 4);
-        g.face(3, 2);
-        g.face(4, 3);
-        g.face(4, 1);
-        g.face(5, 0);
-        for (int t = 0; t < 6; t++) g.member(t, 0, START);
-        g.member(0, 0, PLAIN);
-        g.member(1, 1, SHARED);
-        g.member(2, 2, PLAIN);
-        g.member(3, 3, BARE);
-        g.member(3, 4, SHARED);
-        g.member(4, 5, SHARED);
-        g.root(11, true);
-        return g;
+    private static void statics() {
+        check.sentence(0, "STATIC: that which is FOUND in a, if it is STATIC");
+        CallGraphs g = types(FACE, CLASS);
+        g.type(CLASS, 1);
+        g.face(2, 0);
+        g.member(1, 0, SHARED);
+        g.member(0, 1, SHARED);
+        g.member(1, 2, PLAIN);
+        g.member(1, 3, PRIVATE);
+        g.member(0, 4, BARE);
+        g.member(2, 5, SHARED);
+        g.root(5, true);
+        for (int name = 0; name < 7; name++) g.op(5, STATIC, 2, name);
+        g.op(5, STATIC, 0, 1);
+        dueCallees("of the SUPER", g, 5, 0, 0);
+        dueCallees("of a face, from a class UNDER it", g, 5, 1);
+        dueCallees("PLAIN", g, 5, 2);
+        dueCallees("PRIVATE", g, 5, 3);
+        dueCallees("BARE", g, 5, 4);
+        dueCallees("its own", g, 5, 5, 5);
+        dueCallees("nothing is FOUND", g, 5, 6);
+        dueCallees("of a face, from itself", g, 5, 7, 1);
     }
 
-    private static void begunWithAClass() {
-        CallGraphs g = beginning();
-        check.due("a root begins nothing", g.count(6), 0);
-        g.op(11, NEW, 5, 0);
-        int[] begun = {1, 0, 1, 0, 1, 1};
-        for (int t = 0; t < 6; t++) {
-            check.due("begun " + t, g.made(t, 1), begun[t]);
-            check.due("START " + t, g.about(t, 0), begun[t]);
-        }
-        dueCallees("all these STARTS", g, 11, 0, 0, 2, 4, 5);
-        check.due("but one is made", g.count(5), 1);
-        g.op(5, NEW, 4, 0);
-        dueCallees("NEW of the SUPER within", g, 5, 0, 2, 4);
-        dueCallers("START of 4", g, 4, 5, 11);
-
-        CallGraphs row = new CallGraphs();
-        for (int t = 0; t < 16; t++) row.type(0, t - 1);
-        row.member(15, 0, SHARED);
-        row.member(0, 0, START);
-        row.root(0, true);
-        row.op(0, NEW, 15, 0);
-        check.due("sixteen in a row", row.count(6), 16);
-        dueCallees("the START at the top of sixteen", row, 0, 0, 1);
+    private static void staticsBegin() {
+        check.sentence(0, "its type is BEGUN (the type of the member that is FOUND)");
+        CallGraphs g = types(FACE, CLASS);
+        g.type(CLASS, 1);
+        g.member(1, 0, SHARED);
+        g.member(2, 1, PLAIN);
+        g.member(0, 2, SHARED);
+        g.root(1, true);
+        g.op(1, STATIC, 2, 1);
+        dueBegun("it is not STATIC", g, 0, 0, 0);
+        g.op(1, STATIC, 2, 9);
+        dueBegun("nothing is FOUND", g, 0, 0, 0);
+        g.op(1, STATIC, 2, 0);
+        dueBegun("the SUPER's", g, 0, 1, 0);
+        g.op(1, STATIC, 0, 2);
+        dueBegun("a face's", g, 1, 1, 0);
+        check.due("none is MADE", g.count(5), 0);
     }
 
-    private static void begunByStatic() {
-        CallGraphs g = beginning();
-        g.op(11, STATIC, 3, 4);
-        dueCallees("a face begins nothing with it", g, 11, 0, 3, 10);
-        check.due("begun", g.count(6), 1);
-        g.op(11, STATIC, 5, 5);
-        dueCallees("the type that has the member, not the one that is told", g, 11, 1, 2, 4, 11);
-        check.due("5 is not begun", g.made(5, 1), 0);
-        g.op(11, STATIC, 0, 0);
-        dueCallees("a member that is not STATIC", g, 11, 2);
-        check.due("does not begin its type", g.made(0, 1), 0);
-        check.due("made none", g.count(5), 0);
-    }
-
-    private static void bags() {
-        CallGraphs g = shared(5);
+    private static void puts() {
+        check.sentence(0, "PUT: the member is in the BAG");
+        CallGraphs g = shared(4);
+        g.member(0, 4, PLAIN);
+        g.member(0, 5, PRIVATE);
         g.root(0, true);
+        g.op(0, PUT, 1, 3);
+        g.op(0, PUT, 1, 4);
+        g.op(0, PUT, 1, 5);
+        g.op(0, PUT, 1, 3);
+        for (int op = 0; op < 4; op++) dueCallees("PUT calls nothing", g, 0, op);
+        dueReached("nor is it REACHED by that", g, 1, 0, 0, 0, 0, 0);
         g.op(0, OUT, 1, 0);
-        g.op(0, PUT, 1, 2);
-        g.op(2, PUT, 1, 1);
-        g.op(3, PUT, 1, 4);
-        g.op(2, PUT, 0, 4);
-        dueCallees("all that is in the bag, though put later", g, 0, 0, 1, 2);
-        dueCallees("PUT calls nothing", g, 0, 1);
-        check.due("put by one that is not reached, and into another bag", g.about(4, 0), 0);
-        check.due("a handle begins nothing", g.count(6), 0);
+        dueCallees("all three are there", g, 0, 4, 3, 4, 5);
+        dueBegun("a handle begins nothing", g, 0);
+        g.root(0, false);
+        g.root(1, true);
+        g.op(1, OUT, 1, 0);
+        dueCallees("put by one that is none now", g, 1, 0);
     }
 
-    private static void anyOfAName() {
-        CallGraphs g = new CallGraphs();
-        for (int i = 0; i < 4; i++) g.type(1, -1);
+    private static void outs() {
+        check.sentence(0, "OUT: each that is in the BAG is a CALLEE");
+        CallGraphs g = shared(9);
+        g.root(8, true);
+        for (int bag = 0; bag < 4; bag++) g.op(8, OUT, bag, 0);
+        for (int bag = 0; bag < 4; bag++) dueCallees("BAG " + bag + " is empty", g, 8, bag);
+        for (int bag = 0; bag < 4; bag++) g.op(8, PUT, bag, bag);
+        for (int bag = 0; bag < 4; bag++) dueCallees("BAG " + bag + ", put behind the OUT", g, 8, bag, bag);
+        for (int bag = 0; bag < 4; bag++) g.op(bag, PUT, bag, bag + 4);
+        for (int bag = 0; bag < 4; bag++) dueCallees("BAG " + bag + ", put by what is taken OUT", g, 8, bag, bag, bag + 4);
+
+        for (int bag = 0; bag < 4; bag++) {
+            CallGraphs one = shared(2);
+            one.root(0, true);
+            one.op(0, OUT, bag, 0);
+            one.op(0, PUT, bag, 1);
+            dueCallees("BAG " + bag + " alone, put behind the OUT", one, 0, 0, 1);
+        }
+
+        CallGraphs full = types(CLASS, CLASS, CLASS, CLASS, CLASS);
+        for (int m = 0; m < 48; m++) full.member(m / 10, m % 10, SHARED);
+        for (int m = 0; m < 48; m++) full.op(m / 12, PUT, 3, m);
+        full.op(4, OUT, 3, 0);
+        for (int m = 0; m < 5; m++) full.root(m, true);
+        for (int m = 0; m < 48; m++) check.due("all 48 in a BAG: callee " + m, full.callee(4, 0, m), m);
+        check.due("no 49th", full.callee(4, 0, 48), NONE);
+    }
+
+    private static void anys() {
+        check.sentence(0, "ANY: each that it tells (some member of NAME b that is PLAIN, STATIC or PRIVATE, of whatever type)");
+        CallGraphs g = types(ABSTRACT, ABSTRACT, FACE, CLASS);
         g.member(0, 0, BARE);
         g.member(1, 0, PRIVATE);
         g.member(2, 0, SHARED);
         g.member(3, 0, PLAIN);
         g.member(3, 0, START);
         g.member(3, 1, PLAIN);
-        g.op(5, ANY, 0, 0);
-        dueCallees("not reached", g, 5, 0);
         g.root(5, true);
-        dueCallees("all but BARE", g, 5, 0, 1, 2, 3);
-        check.due("begins nothing", g.count(6), 0);
-        check.due("has no faults", g.count(8), 0);
-    }
-
-    private static void dueFaults(String of, CallGraphs g, int member, int op, int... due) {
-        for (int i = 0; i < 4; i++) check.due(of + ": faults of kind " + (-2 - i), g.faults(member, op, -2 - i), due[i]);
-    }
-
-    /** Faces 0 and 1 clash in NAME 0; classes 2 and 3 have both, 4 has 1; 1 has NAME 1 BARE, 2 has NAME 2 STATIC. */
-    private static void faultsOfCalls() {
-        CallGraphs g = new CallGraphs();
-        g.type(2, -1);
-        g.type(2, -1);
-        for (int t = 2; t < 5; t++) {
-            g.type(0, -1);
-            g.face(t, 1);
-            if (t < 4) g.face(t, 0);
+        g.op(5, ANY, 0, 0);
+        g.op(5, ANY, 0, 9);
+        g.op(5, ANY, 0, 1);
+        dueCallees("all but BARE and START", g, 5, 0, 1, 2, 3);
+        dueCallees("none has it", g, 5, 1);
+        dueCallees("itself", g, 5, 2, 5);
+        dueBegun("ANY begins nothing", g, 0, 0, 0, 0);
+        check.due("and has no FAULTS", g.count(8), 0);
+        CallGraphs wide = new CallGraphs();
+        for (int t = 0; t < 16; t++) {
+            wide.type(FACE, NONE);
+            wide.member(t, 9, t % 2 == 0 ? PLAIN : PRIVATE);
         }
-        g.member(0, 0, PLAIN);
-        g.member(1, 0, PLAIN);
-        g.member(1, 1, BARE);
-        g.member(2, 2, SHARED);
-        int root = g.member(4, 7, SHARED);
-        g.op(root, CALL, 1, 0);
-        g.op(root, CALL, 1, 1);
-        g.op(root, CALL, 1, 5);
-        g.op(root, CALL, 2, 2);
-        g.op(root, THREAD, 1, 0);
-        dueFaults("not reached", g, root, 0, 0, 0, 0, 0);
-        g.root(root, true);
-        for (int op = 0; op < 5; op++) dueFaults("none made, OP " + op, g, root, op, 0, 0, 0, 0);
-        for (int c = 2; c < 5; c++) g.op(root, NEW, c, 0);
-        dueFaults("CLASH for each", g, root, 0, 0, 0, 0, 2);
-        dueCallees("but for one", g, root, 0, 1);
-        dueFaults("BARE for each", g, root, 1, 0, 0, 3, 0);
-        dueFaults("MISSING once", g, root, 2, 1, 0, 0, 0);
-        dueFaults("UNLIKE once", g, root, 3, 0, 1, 0, 0);
-        dueFaults("THREAD is MISSING once", g, root, 4, 1, 0, 0, 0);
-        dueFaults("NEW has none", g, root, 5, 0, 0, 0, 0);
-        check.due("all faults", g.count(8), 8);
-        g.op(root, CALL, 4, 1);
-        dueFaults("of the one UNDER it", g, root, 8, 0, 0, 1, 0);
+        wide.root(15, true);
+        wide.op(15, ANY, 0, 9);
+        for (int m = 0; m < 16; m++) check.due("of sixteen types: " + m, wide.callee(15, 0, m), m);
+        check.due("no 17th", wide.callee(15, 0, 16), NONE);
     }
 
-    private static void faultsOfUpAndStatic() {
-        CallGraphs g = new CallGraphs();
-        g.type(2, -1);
-        g.type(2, -1);
-        g.type(1, -1);
-        g.face(2, 0);
-        g.face(2, 1);
-        g.type(0, 2);
-        g.member(0, 0, PLAIN);
-        g.member(1, 0, PLAIN);
-        g.member(2, 1, BARE);
-        g.member(2, 2, SHARED);
-        int root = g.member(3, 7, PLAIN);
-        g.root(root, true);
-        g.op(root, UP, 2, 5);
-        g.op(root, UP, 2, 2);
-        g.op(root, UP, 2, 1);
-        g.op(root, UP, 2, 0);
-        g.op(root, STATIC, 2, 5);
-        g.op(root, STATIC, 3, 0);
-        g.op(root, STATIC, 3, 2);
-        dueFaults("UP MISSING", g, root, 0, 1, 0, 0, 0);
-        dueFaults("UP UNLIKE", g, root, 1, 0, 1, 0, 0);
-        dueFaults("UP BARE", g, root, 2, 0, 0, 1, 0);
-        dueFaults("UP CLASH", g, root, 3, 0, 0, 0, 1);
-        dueFaults("STATIC MISSING", g, root, 4, 1, 0, 0, 0);
-        dueFaults("STATIC UNLIKE", g, root, 5, 0, 1, 0, 0);
-        dueFaults("STATIC without a fault", g, root, 6, 0, 0, 0, 0);
-        check.due("all faults", g.count(8), 6);
-        g.root(root, false);
-        check.due("not reached", g.count(8), 0);
-        dueFaults("not reached", g, root, 0, 0, 0, 0, 0);
-    }
-
-    private static void rings() {
-        CallGraphs g = shared(9);
-        call(g, 0, 3);
-        call(g, 3, 1);
-        call(g, 1, 2, 4);
-        call(g, 2, 3);
-        call(g, 4, 4, 5);
-        call(g, 6, 7);
-        call(g, 7, 6);
-        g.root(0, true);
-        int[] rings = {0, 3, 3, 3, 1, 0, 0, 0, 0};
-        int[] least = {-1, 1, 1, 1, 4, -1, -1, -1, -1};
-        for (int m = 0; m < 9; m++) {
-            check.due("recursive " + m, g.about(m, 1), rings[m] > 0 ? 1 : 0);
-            check.due("ring of " + m, g.about(m, 3), rings[m]);
-            check.due("least of the ring of " + m, g.about(m, 4), least[m]);
-        }
-        check.due("count(9)", g.count(9), 4);
-        g.root(7, true);
-        check.due("count(9), 6 and 7 reached", g.count(9), 6);
-        check.due("ring of 6", g.about(6, 3), 2);
-        dueCallers("of one in two rows", g, 3, 0, 2);
-        dueCallers("of one that calls itself", g, 4, 1, 4);
-    }
-
-    private static void ways() {
-        CallGraphs g = shared(10);
-        call(g, 0, 5, 4);
-        call(g, 4, 6);
-        call(g, 5, 6, 8);
-        call(g, 6, 7);
-        call(g, 2, 3);
-        call(g, 3, 7);
-        call(g, 1, 5, 0);
-        g.root(2, true);
-        g.root(1, true);
-        dueWay("to a root", g, 1, 1);
-        dueWay("to a callee", g, 5, 1, 5);
-        dueWay("the shorter, though of the greater root", g, 7, 2, 3, 7);
-        dueWay("over the lesser row", g, 6, 1, 5, 6);
-        dueWay("not reached", g, 9);
-        g.root(0, true);
-        dueWay("of two roots the lesser", g, 5, 0, 5);
-        dueWay("at the first that differs", g, 6, 0, 4, 6);
-        dueWay("a root that is called", g, 0, 0);
-        dueWay("to the end", g, 8, 0, 5, 8);
-        g.root(2, false);
-        dueWay("without the short one", g, 7, 0, 4, 6, 7);
-    }
-
-    private static void longestWay() {
-        CallGraphs g = new CallGraphs();
-        for (int t = 0; t < 5; t++) g.type(0, -1);
+    private static void calleesAreReached() {
+        check.sentence(0, "CALLEES are REACHED");
+        CallGraphs g = types(CLASS, CLASS, CLASS, CLASS, CLASS);
         for (int m = 0; m < 48; m++) g.member(m / 10, m % 10, SHARED);
         for (int m = 0; m < 47; m++) g.op(m + 1, STATIC, m / 10, m % 10);
+        g.root(20, true);
+        check.due("a row from 20 down", g.count(4), 21);
+        check.due("its last", g.about(0, 0), 1);
+        check.due("one before its first", g.about(21, 0), 0);
         g.root(47, true);
-        for (int i = 0; i < 48; i++) check.due("longest way " + i, g.way(0, i), 47 - i);
-        check.due("longest way ends", g.way(0, 48), CallGraphs.NONE);
-        check.due("all reached", g.count(4), 48);
-        g.op(0, STATIC, 4, 7);
-        check.due("one ring", g.about(20, 3), 48);
-        check.due("all recursive", g.count(9), 48);
+        check.due("the longest row", g.count(4), 48);
+    }
+
+    private static void begunWithAClass() {
+        check.sentence(0, "With a class its SUPER is BEGUN");
+        for (int last = 0; last < 16; last++) {
+            CallGraphs g = new CallGraphs();
+            for (int t = 0; t < 16; t++) g.type(t == 7 && last != 7 ? ABSTRACT : CLASS, t - 1);
+            g.member(6, 0, SHARED);
+            g.root(0, true);
+            g.op(0, NEW, last, 0);
+            int[] begun = new int[16];
+            for (int t = 0; t <= last; t++) begun[t] = 1;
+            dueBegun("a row up from " + last, g, begun);
+            check.due("but one is MADE", g.count(5), 1);
+        }
+        CallGraphs apart = types(CLASS, CLASS);
+        apart.type(CLASS, 0);
+        apart.member(2, 0, SHARED);
+        apart.root(0, true);
+        apart.op(0, STATIC, 2, 0);
+        dueBegun("by STATIC", apart, 1, 0, 1);
+    }
+
+    /** Faces 0 .. 5, each with a member of its number as its sort, 5 without any; class 6 has 0, 1, 2, class 7 of it 3, 4, 5. */
+    private static CallGraphs sixFaces() {
+        CallGraphs g = types(FACE, FACE, FACE, FACE, FACE, FACE, CLASS);
+        g.type(CLASS, 6);
+        for (int f = 0; f < 6; f++) g.face(f < 3 ? 6 : 7, f);
+        for (int f = 0; f < 5; f++) g.member(f, 0, f);
+        g.member(6, 9, SHARED);
+        g.root(5, true);
+        return g;
+    }
+
+    private static void facesBegunWithAClass() {
+        check.sentence(0, "and each face ABOVE it that has a PLAIN member");
+        CallGraphs g = sixFaces();
+        g.op(5, NEW, 7, 0);
+        dueBegun("PLAIN alone counts", g, 1, 0, 0, 0, 0, 0, 1, 1);
+        g.member(5, 3, PLAIN);
+        dueBegun("one that came late", g, 1, 0, 0, 0, 0, 1, 1, 1);
+        g.member(1, 3, PLAIN);
+        dueBegun("one beside a BARE one", g, 1, 1, 0, 0, 0, 1, 1, 1);
+        CallGraphs deep = types(FACE, FACE, FACE, CLASS);
+        deep.type(CLASS, 3);
+        deep.face(1, 0);
+        deep.face(2, 1);
+        deep.face(3, 2);
+        deep.member(0, 0, PLAIN);
+        deep.member(1, 1, BARE);
+        deep.member(4, 9, SHARED);
+        deep.root(2, true);
+        deep.op(2, NEW, 4, 0);
+        dueBegun("ABOVE two faces that have none", deep, 1, 0, 0, 1, 1);
+        CallGraphs apart = types(FACE, CLASS);
+        apart.member(0, 0, PLAIN);
+        apart.member(1, 0, SHARED);
+        apart.root(1, true);
+        apart.op(1, NEW, 1, 0);
+        dueBegun("a face that is not ABOVE", apart, 0, 1);
+    }
+
+    private static void nothingIsBegunWithAFace() {
+        check.sentence(0, "With a class (with a face nothing is BEGUN)");
+        CallGraphs g = types(FACE, FACE, CLASS);
+        g.face(1, 0);
+        g.face(2, 1);
+        g.member(0, 0, PLAIN);
+        g.member(1, 1, SHARED);
+        g.member(0, 0, START);
+        g.member(1, 0, START);
+        g.root(1, true);
+        g.op(1, STATIC, 1, 1);
+        dueBegun("by STATIC of a face", g, 0, 1, 0);
+        dueCallees("its START alone", g, 1, 0, 1, 3);
+        g.member(1, 2, PLAIN);
+        dueBegun("though it has a PLAIN member itself", g, 0, 1, 0);
+        g.op(1, NEW, 2, 0);
+        dueBegun("with a class both are", g, 1, 1, 1);
+    }
+
+    private static void startsAreReached() {
+        check.sentence(0, "The START of a BEGUN type is REACHED");
+        CallGraphs g = sixFaces();
+        for (int t = 0; t < 8; t++) g.member(t, 0, START);
+        int[] starts = {6, 7, 8, 9, 4, 10, 11, 12};
+        for (int t = 0; t < 8; t++) check.due("none is BEGUN: START of " + t, g.about(starts[t], 0), 0);
+        g.op(5, NEW, 7, 0);
+        int[] begun = {1, 0, 0, 0, 0, 0, 1, 1};
+        for (int t = 0; t < 8; t++) check.due("START of " + t, g.about(starts[t], 0), begun[t]);
+        g.op(starts[0], STATIC, 6, 9);
+        dueCallees("what a START calls", g, starts[0], 0, 5, 6, 11);
+        check.due("which is RECURSIVE by that", g.about(starts[0], 1), 1);
+        CallGraphs without = shared(1);
+        without.root(0, true);
+        without.op(0, NEW, 0, 0);
+        dueCallees("a type without a START", without, 0, 0);
+    }
+
+    private static void startsAreCallees() {
+        check.sentence(0, "it is a CALLEE of each OP by which the type, or one with which it is BEGUN, is BEGUN (NEW, STATIC)");
+        CallGraphs g = types(FACE, CLASS);
+        g.type(CLASS, 1);
+        g.face(2, 0);
+        for (int t = 0; t < 3; t++) g.member(t, 0, START);
+        g.member(0, 0, PLAIN);
+        g.member(1, 1, SHARED);
+        g.member(2, 2, PLAIN);
+        g.root(4, true);
+        g.op(4, NEW, 2, 0);
+        g.op(4, NEW, 2, 0);
+        g.op(4, NEW, 1, 0);
+        g.op(4, STATIC, 2, 1);
+        g.op(4, CALL, 2, 2);
+        g.op(4, CALL, 0, 0);
+        g.op(4, ANY, 0, 2);
+        g.op(4, PUT, 0, 5);
+        g.op(4, OUT, 0, 0);
+        g.op(5, UP, 1, 1);
+        g.op(5, UP, 0, 0);
+        dueCallees("NEW 2: all three", g, 4, 0, 0, 1, 2);
+        dueCallees("NEW 2 again: all three", g, 4, 1, 0, 1, 2);
+        dueCallees("NEW 1: its own", g, 4, 2, 1);
+        dueCallees("STATIC: that of the type that has the member, and the member", g, 4, 3, 1, 4);
+        dueCallees("CALL: none", g, 4, 4, 5);
+        dueCallees("CALL of a face: none", g, 4, 5, 3);
+        dueCallees("ANY: none", g, 4, 6, 5);
+        dueCallees("PUT: none", g, 4, 7);
+        dueCallees("OUT: none", g, 4, 8, 5);
+        dueCallees("UP: none, and STATIC is UNLIKE", g, 5, 0);
+        dueCallees("UP to a face: none", g, 5, 1, 3);
     }
 
     private static void changesAreSeen() {
+        check.sentence(0, "THE GRAPH holds (as things stand, behind each change)");
         CallGraphs g = family();
-        g.op(4, CALL, 0, 1);
-        g.op(4, NEW, 1, 0);
-        check.due("before", g.callee(4, 0, 0), 3);
-        g.member(1, 1, PLAIN);
-        check.due("a member came", g.callee(4, 0, 0), 5);
-        check.due("the one before is not reached now", g.about(3, 0), 0);
-        g.op(5, STATIC, 0, 5);
-        check.due("an OP came", g.about(4, 1), 1);
-        check.due("a refused one changes nothing", g.op(5, NEW, 0, 0), CallGraphs.OUTSIDE);
-        check.due("pairs", g.count(7), 2);
-        g.root(4, false);
-        check.due("a root went", g.count(4), 0);
-        check.due("then none is made", g.count(5), 0);
-        check.due("then none is begun", g.count(6), 0);
-        check.due("then none is called", g.about(5, 2), 0);
-        g.root(4, true);
-        check.due("a root came: caller", g.caller(5, 0), 4);
-        g.root(4, false);
-        check.due("and went: caller", g.caller(5, 0), CallGraphs.NONE);
-        g.root(4, true);
-        check.due("a root came: way", g.way(5, 1), 5);
-        g.root(4, false);
-        check.due("and went: way", g.way(5, 1), CallGraphs.NONE);
-        g.root(4, true);
-        check.due("a root came: callee", g.callee(4, 0, 0), 5);
-        g.root(4, false);
-        check.due("and went: callee", g.callee(4, 0, 0), CallGraphs.NONE);
-        g.root(4, true);
-        check.due("a root came: made", g.made(1, 0), 1);
-        g.root(4, false);
-        check.due("and went: made", g.made(1, 0), 0);
-        g.op(4, CALL, 0, 7);
-        g.root(4, true);
-        check.due("a root came: faults", g.faults(4, 2, CallGraphs.MISSING), 1);
-        g.root(4, false);
-        check.due("and went: faults", g.faults(4, 2, CallGraphs.MISSING), 0);
-
-        CallGraphs bag = shared(3);
-        bag.op(0, PUT, 0, 2);
-        bag.op(1, OUT, 0, 0);
-        bag.root(0, true);
-        bag.root(1, true);
-        check.due("put by a root", bag.about(2, 0), 1);
-        bag.root(0, false);
-        check.due("that is none now", bag.about(2, 0), 0);
-
-        CallGraphs late = new CallGraphs();
-        late.type(2, -1);
-        late.type(0, -1);
+        g.op(3, CALL, 0, 0);
+        g.op(3, NEW, 2, 0);
+        dueReached("before", g, 1, 0, 0, 1);
+        g.member(2, 0, PLAIN);
+        dueReached("a member came", g, 0, 0, 0, 1, 1);
+        g.op(3, NEW, 1, 0);
+        dueReached("an OP came", g, 0, 1, 0, 1, 1);
+        g.root(3, false);
+        dueReached("a ROOT went", g, 0, 0, 0, 0, 0);
+        check.due("none is MADE", g.count(5), 0);
+        check.due("none is BEGUN", g.count(6), 0);
+        check.due("no pairs", g.count(7), 0);
+        g.root(3, true);
+        dueReached("a ROOT came", g, 0, 1, 0, 1, 1);
+        CallGraphs late = types(FACE, CLASS);
         late.member(0, 0, PLAIN);
         late.member(1, 1, SHARED);
         late.root(1, true);
         late.op(1, NEW, 1, 0);
         late.op(1, CALL, 0, 0);
-        check.due("no face yet", late.count(4), 1);
-        check.due("begun without it", late.count(6), 1);
+        dueReached("no face yet", late, 0, 1);
+        dueBegun("no face yet", late, 0, 1);
         late.face(1, 0);
-        check.due("a face came", late.count(4), 2);
-        check.due("begun with it", late.count(6), 2);
+        dueReached("a face came", late, 1, 1);
+        dueBegun("a face came", late, 1, 1);
+        late.type(CLASS, 1);
+        dueReached("a type came", late, 1, 1);
+        check.due("it is not MADE", late.made(2, 0), 0);
     }
 
-    private static void refusals() {
+    private static void countsOfTold() {
+        check.sentence(7, "How many: what = 0 types, 1 members, 2 OPS, 3 ROOTS");
+        CallGraphs g = new CallGraphs();
+        for (int what = 0; what < 4; what++) check.due("new: count(" + what + ")", g.count(what), 0);
+        for (int t = 0; t < 4; t++) g.type(t % 3, NONE);
+        for (int m = 0; m < 3; m++) g.member(0, m, PLAIN);
+        for (int o = 0; o < 5; o++) g.op(o % 2, OUT, 0, 0);
+        g.root(0, true);
+        g.root(2, true);
+        int[] due = {4, 3, 5, 2};
+        for (int what = 0; what < 4; what++) check.due("count(" + what + ")", g.count(what), due[what]);
+        g.root(0, false);
+        check.due("count(3), one less", g.count(3), 1);
+    }
+
+    private static void countsOfTheGraph() {
+        check.sentence(7, "4 REACHED members, 5 MADE classes, 6 BEGUN types, 8 FAULTS, 9 RECURSIVE members (that are REACHED)");
+        CallGraphs g = shared(7);
+        g.type(CLASS, 0);
+        g.type(CLASS, 0);
+        g.op(0, STATIC, 0, 1);
+        g.op(1, STATIC, 0, 0);
+        g.op(1, STATIC, 0, 2);
+        g.op(1, NEW, 1, 0);
+        g.op(2, CALL, 0, 9);
+        g.op(2, STATIC, 0, 8);
+        g.op(3, STATIC, 0, 3);
+        g.op(3, STATIC, 0, 9);
+        g.op(3, NEW, 2, 0);
+        int[] none = {0, 0, 0, 0, 0, 0};
+        int[] some = {3, 1, 2, 3, 2, 2};
+        int[] more = {4, 2, 3, 4, 3, 3};
+        dueCounts("without ROOTS", g, none);
+        g.root(0, true);
+        dueCounts("from 0", g, some);
+        g.root(3, true);
+        dueCounts("from 0 and 3", g, more);
+    }
+
+    private static void dueCounts(String of, CallGraphs g, int[] due) {
+        for (int i = 0; i < due.length; i++) check.due(of + ": count(" + (4 + i) + ")", g.count(4 + i), due[i]);
+    }
+
+    private static void countOfPairs() {
+        check.sentence(7, "7 pairs of OPS and CALLEES");
+        CallGraphs g = shared(4);
+        g.root(0, true);
+        g.op(0, OUT, 0, 0);
+        check.due("an OP without", g.count(7), 0);
+        g.op(0, STATIC, 0, 1);
+        check.due("one", g.count(7), 1);
+        g.op(0, STATIC, 0, 1);
+        check.due("another OP, the same CALLEE", g.count(7), 2);
+        g.op(0, PUT, 0, 2);
+        g.op(1, PUT, 0, 1);
+        check.due("one OP, two CALLEES", g.count(7), 4);
+        g.op(3, STATIC, 0, 1);
+        check.due("of one that is not REACHED", g.count(7), 4);
+        g.member(0, 0, START);
+        check.due("a START with each STATIC", g.count(7), 6);
+    }
+
+    private static void countsAtTheirMost() {
+        check.sentence(7, "How many (as many as there can be)");
+        CallGraphs g = new CallGraphs();
+        for (int t = 0; t < 16; t++) g.type(CLASS, t - 1);
+        for (int m = 0; m < 48; m++) g.member(m / 3, m % 3, SHARED);
+        for (int m = 0; m < 48; m++) g.op(m, ANY, 0, 0);
+        for (int m = 0; m < 48; m++) g.op(m, ANY, 0, m % 3);
+        for (int m = 0; m < 48; m++) g.op(m, CALL, 0, 9);
+        for (int t = 0; t < 16; t++) g.op(47, NEW, t, 0);
+        for (int m = 0; m < 48; m++) g.root(m, true);
+        int[] due = {16, 48, 160, 48, 48, 16, 16, 2 * 48 * 16, 48, 48};
+        for (int what = 0; what < 10; what++) check.due("count(" + what + ")", g.count(what), due[what]);
+    }
+
+    private static void countOutside() {
+        check.sentence(7, "OUTSIDE");
+        CallGraphs g = shared(1);
+        int[] wrong = {-1, 10, LEAST, GREATEST};
+        for (int what : wrong) check.due("count(" + what + ")", g.count(what), OUTSIDE);
+        check.due("count(0)", g.count(0), 1);
+        check.due("count(9)", g.count(9), 0);
+    }
+
+    private static void madeOfAType() {
+        check.sentence(12, "Of a type: what = 0 whether it is MADE, 1 whether it is BEGUN");
+        CallGraphs g = types(FACE, CLASS);
+        g.type(CLASS, 1);
+        g.member(1, 0, SHARED);
+        g.op(0, NEW, 2, 0);
+        for (int t = 0; t < 3; t++) {
+            check.due("before: made(" + t + ", 0)", g.made(t, 0), 0);
+            check.due("before: made(" + t + ", 1)", g.made(t, 1), 0);
+        }
+        g.root(0, true);
+        int[][] due = {{0, 0}, {0, 1}, {1, 1}};
+        for (int t = 0; t < 3; t++) {
+            check.due("made(" + t + ", 0)", g.made(t, 0), due[t][0]);
+            check.due("made(" + t + ", 1)", g.made(t, 1), due[t][1]);
+        }
+        CallGraphs last = new CallGraphs();
+        for (int t = 0; t < 16; t++) last.type(CLASS, NONE);
+        last.member(0, 0, SHARED);
+        last.root(0, true);
+        last.op(0, NEW, 15, 0);
+        check.due("the last type", last.made(15, 0), 1);
+        check.due("the one before", last.made(14, 0), 0);
+    }
+
+    private static void madeUnknown() {
+        check.sentence(12, "UNKNOWN");
+        CallGraphs g = types(FACE, CLASS);
+        int[] wrong = {-1, 2, LEAST, GREATEST};
+        for (int t : wrong) {
+            check.due("made(" + t + ", 0)", g.made(t, 0), UNKNOWN);
+            check.due("made(" + t + ", 1)", g.made(t, 1), UNKNOWN);
+        }
+        check.due("the last one", g.made(1, 0), 0);
+    }
+
+    private static void madeOutside() {
+        check.sentence(12, "OUTSIDE");
+        CallGraphs g = types(FACE, CLASS);
+        int[] wrong = {-1, 2, LEAST, GREATEST};
+        for (int what : wrong) check.due("made(1, " + what + ")", g.made(1, what), OUTSIDE);
+    }
+
+    private static void calleesByNumbers() {
+        check.sentence(13, "The i-th CALLEE of an OP of a member, by numbers");
+        CallGraphs g = shared(9);
+        g.root(0, true);
+        int[] put = {7, 1, 8, 0, 3};
+        for (int m : put) g.op(0, PUT, 2, m);
+        g.op(0, OUT, 2, 0);
+        g.op(0, STATIC, 0, 5);
+        dueCallees("OUT", g, 0, 5, 0, 1, 3, 7, 8);
+        dueCallees("STATIC", g, 0, 6, 5);
+    }
+
+    private static void calleeNone() {
+        check.sentence(13, "NONE");
         CallGraphs g = shared(2);
-        call(g, 0, 1);
-        check.due("about: member 2", g.about(2, 0), CallGraphs.UNKNOWN);
-        check.due("about: member -1, what 5", g.about(-1, 5), CallGraphs.UNKNOWN);
-        check.due("about: what 5", g.about(0, 5), CallGraphs.OUTSIDE);
-        check.due("about: what -1", g.about(0, -1), CallGraphs.OUTSIDE);
-        check.due("made: type 1", g.made(1, 0), CallGraphs.UNKNOWN);
-        check.due("made: type -1, what 2", g.made(-1, 2), CallGraphs.UNKNOWN);
-        check.due("made: what 2", g.made(0, 2), CallGraphs.OUTSIDE);
-        check.due("made: what -1", g.made(0, -1), CallGraphs.OUTSIDE);
-        check.due("callee: member 2", g.callee(2, 0, 0), CallGraphs.UNKNOWN);
-        check.due("callee: member -1", g.callee(-1, 0, 0), CallGraphs.UNKNOWN);
-        check.due("callee: op 1", g.callee(0, 1, 0), CallGraphs.UNKNOWN);
-        check.due("callee: op -1", g.callee(0, -1, 0), CallGraphs.UNKNOWN);
-        check.due("callee: op 0 of one without", g.callee(1, 0, 0), CallGraphs.UNKNOWN);
-        check.due("callee: greatest i", g.callee(0, 0, Integer.MAX_VALUE), CallGraphs.NONE);
-        check.due("faults: member 2", g.faults(2, 0, -2), CallGraphs.UNKNOWN);
-        check.due("faults: op 1, kind 0", g.faults(0, 1, 0), CallGraphs.UNKNOWN);
-        check.due("faults: op -1", g.faults(0, -1, -2), CallGraphs.UNKNOWN);
-        check.due("faults: kind -1", g.faults(0, 0, -1), CallGraphs.OUTSIDE);
-        check.due("faults: kind -6", g.faults(0, 0, -6), CallGraphs.OUTSIDE);
-        check.due("caller: member 2", g.caller(2, 0), CallGraphs.UNKNOWN);
-        check.due("caller: member -1", g.caller(-1, 0), CallGraphs.UNKNOWN);
-        check.due("caller: least i", g.caller(0, Integer.MIN_VALUE), CallGraphs.NONE);
-        check.due("way: member 2", g.way(2, 0), CallGraphs.UNKNOWN);
-        check.due("way: member -1", g.way(-1, 0), CallGraphs.UNKNOWN);
-        check.due("way: greatest i", g.way(0, Integer.MAX_VALUE), CallGraphs.NONE);
+        g.root(0, true);
+        g.op(0, STATIC, 0, 1);
+        g.op(0, OUT, 0, 0);
+        int[] wrong = {-1, 1, 2, 48, 64, LEAST, GREATEST};
+        for (int i : wrong) check.due("of one: callee(0, 0, " + i + ")", g.callee(0, 0, i), NONE);
+        check.due("of one: callee(0, 0, 0)", g.callee(0, 0, 0), 1);
+        int[] all = {-1, 0, 1, LEAST, GREATEST};
+        for (int i : all) check.due("of none: callee(0, 1, " + i + ")", g.callee(0, 1, i), NONE);
+    }
+
+    private static void calleeOfOneNotReached() {
+        check.sentence(13, "NONE (also if the member is not REACHED)");
+        CallGraphs g = shared(3);
+        g.type(CLASS, 0);
+        g.member(0, 5, PLAIN);
+        int[][] ops = {{NEW, 0, 0}, {CALL, 0, 5}, {STATIC, 0, 2}, {ANY, 0, 5}, {PUT, 0, 2}, {OUT, 0, 0}};
+        for (int[] o : ops) {
+            g.op(0, o[0], o[1], o[2]);
+            g.op(1, o[0], o[1], o[2]);
+        }
+        g.root(0, true);
+        int[] due = {NONE, 3, 2, 3, NONE, 2};
+        for (int op = 0; op < ops.length; op++) {
+            check.due("of one that is: callee(0, " + op + ", 0)", g.callee(0, op, 0), due[op]);
+            check.due("of one that is not: callee(1, " + op + ", 0)", g.callee(1, op, 0), NONE);
+        }
+    }
+
+    private static void calleeUnknown() {
+        check.sentence(13, "UNKNOWN (member, op)");
+        CallGraphs g = shared(2);
+        g.op(0, STATIC, 0, 1);
+        int[] members = {-1, 2, LEAST, GREATEST};
+        int[] ops = {-1, 1, 24, LEAST, GREATEST};
+        for (int reached = 0; reached < 2; reached++) {
+            g.root(0, reached == 1);
+            for (int m : members) check.due("callee(" + m + ", 0, 0)", g.callee(m, 0, 0), UNKNOWN);
+            for (int op : ops) {
+                check.due("callee(0, " + op + ", 0)", g.callee(0, op, 0), UNKNOWN);
+                check.due("callee(0, " + op + ", -1)", g.callee(0, op, -1), UNKNOWN);
+            }
+            check.due("one without OPS", g.callee(1, 0, 0), UNKNOWN);
+            check.due("both are there", g.callee(0, 0, 0), reached == 1 ? 1 : NONE);
+        }
     }
 }
