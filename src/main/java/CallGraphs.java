@@ -232,6 +232,8 @@ public final class CallGraphs {
 
     /** Sets of numbers 0 .. 63 in the bits of a long, since these cost no objects. */
     private static final class Bits {
+        private static final int BITS = 64;
+
         static boolean has(long set, int n) {
             return (set >>> n & 1L) != 0L;
         }
@@ -252,7 +254,7 @@ public final class CallGraphs {
         static int nth(long set, int i) {
             if (i < 0 || i >= Long.bitCount(set)) return NONE;
             int before = 0;
-            for (int n = 0; n < Long.SIZE; n++) {
+            for (int n = 0; n < BITS; n++) {
                 if (!has(set, n)) continue;
                 if (before == i) return n;
                 before++;

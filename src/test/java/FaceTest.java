@@ -21,6 +21,9 @@ public final class FaceTest {
             "UNKNOWN -101", "OUTSIDE -102", "STATE -103", "ROOM -104");
     private static final Pattern FORBIDDEN = Pattern.compile("\\b(throw|throws|try|catch|synchronized|assert|protected"
             + "|equals|hashCode|toString|\\w+Exact|Random|Thread)\\b|\\bSystem\\.(?!arraycopy)|\\bstatic\\s*\\{|->|::");
+    private static final Pattern LIBRARY = Pattern.compile("\\b(Arrays|Math|System|Long|Integer|String|Character|Boolean)\\.\\w+");
+    private static final Set<String> ALLOWED = Set.of("Arrays.fill", "Arrays.copyOf", "Arrays.copyOfRange", "Math.min", "Math.max",
+            "Math.abs", "System.arraycopy", "Long.bitCount", "Integer.bitCount");
     private static final Pattern METHOD_BEGINS = Pattern.compile("( {4}| {8})\\w.*\\) \\{");
     private static final int LONGEST_METHOD = 60, MOST_PARAMETERS = 7, MOST_CLASSES = 12, MOST_FIELDS = 20;
     private static final Check check = new Check("FaceTest");
@@ -90,6 +93,11 @@ public final class FaceTest {
         String bare = text.replaceAll("(?s)/\\*.*?\\*/", "").replaceAll("//[^\n]*", "");
         Matcher word = FORBIDDEN.matcher(bare);
         while (word.find()) check.due("'" + word.group() + "' in the text", true, false);
+        Matcher library = LIBRARY.matcher(bare);
+        while (library.find()) {
+            boolean fits = ALLOWED.contains(library.group());
+            check.due("'" + library.group() + "' is of the library that is left", fits, true);
+        }
         String[] lines = bare.split("\n");
         for (String line : lines) {
             if (!line.startsWith("import") && !line.startsWith("package")) continue;

@@ -8,7 +8,9 @@ import java.util.function.ToIntFunction;
  * Each program is told to several objects, as one takes 512 calls at most.
  */
 public final class FullTest {
-    private static final int PROGRAMS = 12, CALLS = 512;
+    private static final int PROGRAMS = 12, CALLS = 512, FAR_OFF = 400;
+    private static final int[] FAR = {Integer.MIN_VALUE, -106, -6, -5, -2, -1, 0, 1, 2, 3, 4, 8, 9, 10, 15, 16, 23, 24, 47, 48, 63, 64,
+        Integer.MAX_VALUE};
 
     private final Check check;
     private final Random random;
@@ -31,6 +33,7 @@ public final class FullTest {
             test.askMembers();
             test.askRuns();
             test.refuse();
+            test.askFarOff();
         }
         check.end();
     }
@@ -124,5 +127,43 @@ public final class FullTest {
         ask("a 161st OP", g -> g.op(47, 7, 0, 0), due.op(47, 7, 0, 0));
         ask("types as before", g -> g.count(0), 16);
         ask("OPS as before", g -> g.count(2), 160);
+    }
+
+    /** Numbers at the edges and far off, in every place of every call. */
+    private void askFarOff() {
+        for (int i = 0; i < FAR_OFF; i++) {
+            int a = far();
+            int b = far();
+            int c = far();
+            int d = far();
+            switch (random.nextInt(17)) {
+                case 0 -> change("type", g -> g.type(a, b), due.type(a, b));
+                case 1 -> change("face", g -> g.face(a, b), due.face(a, b));
+                case 2 -> change("member", g -> g.member(a, b, c), due.member(a, b, c));
+                case 3 -> change("op", g -> g.op(a, b, c, d), due.op(a, b, c, d));
+                case 4 -> change("root", g -> g.root(a, b > 0), due.root(a, b > 0));
+                case 5 -> ask("count", g -> g.count(a), due.count(a));
+                case 6 -> ask("under", g -> g.under(a, b), due.under(a, b));
+                case 7 -> ask("found", g -> g.found(a, b), due.found(a, b));
+                case 8 -> ask("chosen", g -> g.chosen(a, b, c), due.chosen(a, b, c));
+                case 9 -> ask("about", g -> g.about(a, b), due.about(a, b));
+                case 10 -> ask("made", g -> g.made(a, b), due.made(a, b));
+                case 11 -> ask("callee", g -> g.callee(a, b, c), due.callee(a, b, c));
+                case 12 -> ask("faults", g -> g.faults(a, b, c), due.faults(a, b, c));
+                case 13 -> ask("caller", g -> g.caller(a, b), due.caller(a, b));
+                case 14 -> ask("way", g -> g.way(a, b), due.way(a, b));
+                case 15 -> ask("run", g -> g.run(a, b), due.run(a, b));
+                default -> ask("holds", g -> g.holds(a) ? 1 : 0, 1);
+            }
+        }
+    }
+
+    private int far() {
+        return FAR[random.nextInt(FAR.length)];
+    }
+
+    private void change(String what, ToIntFunction<CallGraphs> call, int answer) {
+        ask(what, call, answer);
+        tell(answer, call);
     }
 }
